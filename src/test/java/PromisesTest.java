@@ -24,6 +24,7 @@ public final class PromisesTest {
         costOf();
         best();
         fewestAndMostBoxed();
+        oneBestPlan();
         settled();
         bestWith();
         bestTied();
@@ -274,6 +275,22 @@ public final class PromisesTest {
         bothBoxed(x, 13, 13);
         x.fix(3, 0);
         bothBoxed(x, 4, 5);
+    }
+
+    private static void oneBestPlan() {
+        for (int only = 0; only < 8; only++) {
+            UnboxPlanner x = new UnboxPlanner(3);
+            for (int v = 0; v < 3; v++) {
+                x.cost(v, 1 - (only >> v & 1), 1);
+            }
+            bothBoxed(x, only, only);
+            promise = 9;
+            due("best() of one best plan, " + only, x.best(), 0);
+            promise = 16;
+            for (int plan = 0; plan < 8; plan++) {
+                due("isBest(" + plan + ") beside " + only, x.isBest(plan), plan == only ? 1 : 0);
+            }
+        }
     }
 
     private static void bothBoxed(UnboxPlanner x, int fewest, int most) {
