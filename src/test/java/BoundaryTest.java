@@ -119,7 +119,7 @@ public final class BoundaryTest {
     }
 
     public static void main(String[] args) {
-        whatItIs();
+        callsUpToThe512th();
         termsOfValuesAndPlans();
         termsOfFlows();
         termsOfFixing();
@@ -129,16 +129,16 @@ public final class BoundaryTest {
         promise4();
         promise5();
         promise6();
-        promise7();
+        flowsAnswersHowMany();
         promise8();
-        promise9();
+        bestAnswersTheCost();
         promises10And11();
         promise12();
         promise13();
         promise14();
         promise15();
         promise16();
-        promise17();
+        settledCountAnswersHowMany();
         System.out.println(wrong == 0 ? sentences + " sentences hold" : wrong + " answers are not as due");
         if (wrong != 0) {
             System.exit(1);
@@ -237,10 +237,6 @@ public final class BoundaryTest {
     }
 
     // ---- What it is ----
-
-    private static void whatItIs() {
-        callsUpToThe512th();
-    }
 
     private static void callsUpToThe512th() {
         says("What it is", "An object is used for at most 512 calls after it has been made");
@@ -370,14 +366,14 @@ public final class BoundaryTest {
 
     private static void flowsKeepTheirOrder() {
         says("Terms", "in the order in which they were put in");
-        UnboxPlanner y = new UnboxPlanner(2);
+        UnboxPlanner x = new UnboxPlanner(2);
         for (int i = 0; i < 20; i++) {
-            y.flow(i % 2, 1 - i % 2, i, i);
+            x.flow(i % 2, 1 - i % 2, i, i);
         }
-        y.fix(0, 0);
-        y.fix(1, 1);
+        x.fix(0, 0);
+        x.fix(1, 1);
         for (int i = 0; i < 20; i++) {
-            due("saving(" + i + ")", y.saving(i), i);
+            due("saving(" + i + ")", x.saving(i), i);
         }
     }
 
@@ -385,10 +381,10 @@ public final class BoundaryTest {
         says("Terms", "a flow has two costs 0 .. 30: BOXING .. and UNBOXING ..");
         for (int boxing = 0; boxing <= 30; boxing += 30) {
             for (int unboxing = 0; unboxing <= 30; unboxing += 30) {
-                UnboxPlanner z = new UnboxPlanner(2);
-                due("flow(0, 1, " + boxing + ", " + unboxing + ")", z.flow(0, 1, boxing, unboxing), 0);
-                due("costOf(2)", z.costOf(2), boxing);
-                due("costOf(1)", z.costOf(1), unboxing);
+                UnboxPlanner x = new UnboxPlanner(2);
+                due("flow(0, 1, " + boxing + ", " + unboxing + ")", x.flow(0, 1, boxing, unboxing), 0);
+                due("costOf(2)", x.costOf(2), boxing);
+                due("costOf(1)", x.costOf(1), unboxing);
             }
         }
     }
@@ -450,39 +446,40 @@ public final class BoundaryTest {
 
     private static void bestPlans() {
         says("Terms", "A BEST plan is an allowed plan of least cost.");
-        UnboxPlanner y = new UnboxPlanner(2);
-        y.cost(0, 1, 1);
-        y.fix(0, 1);
-        due("isBest(0): of least cost but not allowed", y.isBest(0), 0);
-        due("isBest(1)", y.isBest(1), 1);
-        due("isBest(3)", y.isBest(3), 1);
-        y.cost(1, 1, 1);
-        due("isBest(3): allowed but dearer by one", y.isBest(3), 0);
+        UnboxPlanner x = new UnboxPlanner(2);
+        x.cost(0, 1, 1);
+        x.fix(0, 1);
+        due("isBest(0): of least cost but not allowed", x.isBest(0), 0);
+        due("isBest(1)", x.isBest(1), 1);
+        due("isBest(3)", x.isBest(3), 1);
+        x.cost(1, 1, 1);
+        due("isBest(3): allowed but dearer by one", x.isBest(3), 0);
     }
 
     private static void bestPlansMeetAndJoin() {
         says("Terms", "The values that are BOXED in all best plans, taken as the only BOXED ones, make a best plan; "
             + "and so do those that are BOXED in at least one best plan.");
         for (State s : STATES) {
-            UnboxPlanner z = s.make();
-            due("isBest(fewestBoxed())", z.isBest(z.fewestBoxed()), 1);
-            due("isBest(mostBoxed())", z.isBest(z.mostBoxed()), 1);
+            UnboxPlanner x = s.make();
+            due("isBest(fewestBoxed())", x.isBest(x.fewestBoxed()), 1);
+            due("isBest(mostBoxed())", x.isBest(x.mostBoxed()), 1);
         }
-        UnboxPlanner w = new UnboxPlanner(3);
-        w.cost(0, 0, 1);
-        w.cost(1, 0, 1);
-        w.flow(0, 2, 0, 1);
-        w.flow(1, 2, 0, 1);
-        w.cost(2, 1, 2);
-        due("isBest(3)", w.isBest(3), 1);
-        due("isBest(0)", w.isBest(0), 1);
-        due("isBest(7)", w.isBest(7), 1);
-        due("fewestBoxed() with best plans apart", w.fewestBoxed(), 0);
-        due("mostBoxed() with best plans apart", w.mostBoxed(), 7);
+        UnboxPlanner apart = new UnboxPlanner(3);
+        apart.cost(0, 0, 1);
+        apart.cost(1, 0, 1);
+        apart.flow(0, 2, 0, 1);
+        apart.flow(1, 2, 0, 1);
+        apart.cost(2, 1, 2);
+        due("isBest(3)", apart.isBest(3), 1);
+        due("isBest(0)", apart.isBest(0), 1);
+        due("isBest(7)", apart.isBest(7), 1);
+        due("fewestBoxed() with best plans apart", apart.fewestBoxed(), 0);
+        due("mostBoxed() with best plans apart", apart.mostBoxed(), 7);
     }
 
     private static void termsOfCalls() {
         noQuestionChangesAnything();
+        noRefusedCallChangesAnything();
         testsInTheOrderNamed();
         goodValues();
         goodFlows();
@@ -495,8 +492,43 @@ public final class BoundaryTest {
         }
     }
 
+    /** Many refused calls on one object, of every sort, and only then a look at it. */
+    private static void noRefusedCallChangesAnything() {
+        says("Terms", "A refused call changes nothing.");
+        for (State s : STATES) {
+            UnboxPlanner x = s.make();
+            int last = s.n - 1;
+            for (int round = 0; round < 3; round++) {
+                due("cost(n, 0, 1)", x.cost(s.n, 0, 1), -1);
+                due("cost(n-1, 2, 1)", x.cost(last, 2, 1), -2);
+                due("cost(n-1, 1, 61)", x.cost(last, 1, 61), -3);
+                due("flow(0, n, 1, 1)", x.flow(0, s.n, 1, 1), -1);
+                due("flow(n-1, n-1, 1, 1)", x.flow(last, last, 1, 1), -2);
+                due("flow(0, n-1, 1, 31)", x.flow(0, last, 1, 31), -3);
+                due("cut(-1)", x.cut(-1), -1);
+                due("cut(flows())", x.cut(s.flows.length), -1);
+                due("fix(n, 1)", x.fix(s.n, 1), -1);
+                due("fix(n-1, 3)", x.fix(last, 3), -2);
+                due("costOf(2^n)", x.costOf(1 << s.n), -1);
+                due("settled(n)", x.settled(s.n), -1);
+                due("bestWith(n, 0)", x.bestWith(s.n, 0), -1);
+                due("bestWith(n-1, 2)", x.bestWith(last, 2), -2);
+                due("bestTied(0, n, 0)", x.bestTied(0, s.n, 0), -1);
+                due("bestTied(n-1, n-1, 0)", x.bestTied(last, last, 0), -2);
+                due("saving(flows())", x.saving(s.flows.length), -1);
+                due("isBest(2^n)", x.isBest(1 << s.n), -1);
+            }
+            String change = s.changeIn(x);
+            if (!change.isEmpty()) {
+                fault("the refused calls changed the object: " + change);
+            }
+        }
+        leaves(FULL, "flow(0, 1, 1, 1) after 20", x -> x.flow(0, 1, 1, 1), -4);
+        leaves(FULL, "bestWith(0, 1) when fixed to 0", x -> x.bestWith(0, 1), -3);
+    }
+
     private static void testsInTheOrderNamed() {
-        says("Terms", "A refused call changes nothing. In every method the tests are made in the order named");
+        says("Terms", "In every method the tests are made in the order named");
         for (State s : STATES) {
             costInOrder(s);
             flowInOrder(s);
@@ -805,13 +837,13 @@ public final class BoundaryTest {
         leaves(FULL, "flow(9, 0, 30, 30)", x -> x.flow(9, 0, 30, 30), -4);
         due("flow(0, 1, 0, 0) after 19", withFlows(19).flow(0, 1, 0, 0), 19);
         due("flow(0, 1, 0, 0) after 20", withFlows(20).flow(0, 1, 0, 0), -4);
-        UnboxPlanner y = withFlows(20);
+        UnboxPlanner full = withFlows(20);
         for (int i = 0; i < 5; i++) {
-            due("a flow more", y.flow(1, 0, 0, 0), -4);
+            due("a flow more", full.flow(1, 0, 0, 0), -4);
         }
-        due("cut(0) after the refused ones", y.cut(0), 19);
-        due("flow(1, 0, 0, 0) after a cut", y.flow(1, 0, 0, 0), 19);
-        due("flow(1, 0, 0, 0) after that", y.flow(1, 0, 0, 0), -4);
+        due("cut(0) after the refused ones", full.cut(0), 19);
+        due("flow(1, 0, 0, 0) after a cut", full.flow(1, 0, 0, 0), 19);
+        due("flow(1, 0, 0, 0) after that", full.flow(1, 0, 0, 0), -4);
     }
 
     private static void flowAnswersItsNumber() {
@@ -819,21 +851,21 @@ public final class BoundaryTest {
         for (int count = 0; count < 20; count++) {
             due("flow(1, 0, 0, 30) after " + count, withFlows(count).flow(1, 0, 0, 30), count);
         }
-        UnboxPlanner z = new UnboxPlanner(2);
-        due("flow(0, 0, 1, 1), refused", z.flow(0, 0, 1, 1), -2);
-        due("flow(0, 1, 1, 1), the first that is put in", z.flow(0, 1, 1, 1), 0);
+        UnboxPlanner x = new UnboxPlanner(2);
+        due("flow(0, 0, 1, 1), refused", x.flow(0, 0, 1, 1), -2);
+        due("flow(0, 1, 1, 1), the first that is put in", x.flow(0, 1, 1, 1), 0);
     }
 
     private static void flowGoesToTheEnd() {
         says("Promise 4", "Puts a flow at the end of the list.");
-        UnboxPlanner w = withFlows(19);
-        w.cut(0);
-        w.flow(0, 1, 1, 1);
-        w.flow(0, 1, 30, 30);
-        w.fix(0, 0);
-        w.fix(1, 1);
-        due("saving(18)", w.saving(18), 1);
-        due("saving(19)", w.saving(19), 30);
+        UnboxPlanner x = withFlows(19);
+        x.cut(0);
+        x.flow(0, 1, 1, 1);
+        x.flow(0, 1, 30, 30);
+        x.fix(0, 0);
+        x.fix(1, 1);
+        due("saving(18)", x.saving(18), 1);
+        due("saving(19)", x.saving(19), 30);
     }
 
     private static void promise5() {
@@ -933,20 +965,16 @@ public final class BoundaryTest {
 
     private static void fixOrFree() {
         says("Promise 6", "Fixes a value to a form, or frees it (FREE 2).");
-        UnboxPlanner y = new UnboxPlanner(2);
-        y.cost(0, 1, 60);
-        y.fix(0, 1);
-        due("best() when fixed to the dear form", y.best(), 60);
-        y.fix(0, 0);
-        due("best() when fixed to the other form", y.best(), 0);
-        y.fix(0, 1);
-        y.fix(0, 2);
-        due("best() when freed", y.best(), 0);
-        due("bestWith(0, 1) when freed", y.bestWith(0, 1), 60);
-    }
-
-    private static void promise7() {
-        flowsAnswersHowMany();
+        UnboxPlanner x = new UnboxPlanner(2);
+        x.cost(0, 1, 60);
+        x.fix(0, 1);
+        due("best() when fixed to the dear form", x.best(), 60);
+        x.fix(0, 0);
+        due("best() when fixed to the other form", x.best(), 0);
+        x.fix(0, 1);
+        x.fix(0, 2);
+        due("best() when freed", x.best(), 0);
+        due("bestWith(0, 1) when freed", x.bestWith(0, 1), 60);
     }
 
     private static void flowsAnswersHowMany() {
@@ -996,10 +1024,6 @@ public final class BoundaryTest {
     }
 
     // ---- Promises 9 to 17: the questions ----
-
-    private static void promise9() {
-        bestAnswersTheCost();
-    }
 
     private static void bestAnswersTheCost() {
         says("Promise 9", "The cost of a best plan.");
@@ -1138,6 +1162,16 @@ public final class BoundaryTest {
         due("bestWith(9, 1) at the greatest", dearest().bestWith(9, 1), 1200);
         due("bestWith(0, 1) with two best plans", twoBest().bestWith(0, 1), 0);
         due("bestWith(9, 0) with two best plans", twoBest().bestWith(9, 0), 1);
+        for (int form = 0; form <= 1; form++) {
+            UnboxPlanner x = new UnboxPlanner(10);
+            for (int v = 0; v < 10; v++) {
+                x.cost(v, 1 - form, 1);
+            }
+            for (int v = 0; v < 10; v++) {
+                due("bestWith(" + v + ", the form) where all others cost more", x.bestWith(v, form), 0);
+                due("bestWith(" + v + ", the other form), dearer by one", x.bestWith(v, 1 - form), 1);
+            }
+        }
     }
 
     private static void promise14() {
@@ -1271,21 +1305,17 @@ public final class BoundaryTest {
         due("isBest(513) with two best plans", two.isBest(513), 0);
     }
 
-    private static void promise17() {
-        settledCountAnswersHowMany();
-    }
-
     private static void settledCountAnswersHowMany() {
         says("Promise 17", "How many values have the same form in all best plans.");
         for (int n = 2; n <= 10; n++) {
             due("settledCount() of a new one of " + n, new UnboxPlanner(n).settledCount(), 0);
-            UnboxPlanner x = new UnboxPlanner(n);
-            UnboxPlanner y = new UnboxPlanner(n);
+            UnboxPlanner byFixing = new UnboxPlanner(n);
+            UnboxPlanner byCost = new UnboxPlanner(n);
             for (int v = 0; v < n; v++) {
-                x.fix(v, v % 2);
-                due("settledCount() of " + n + " with 0 .. " + v + " fixed", x.settledCount(), v + 1);
-                y.cost(v, v % 2, 1);
-                due("settledCount() of " + n + " with 0 .. " + v + " decided by cost", y.settledCount(), v + 1);
+                byFixing.fix(v, v % 2);
+                due("settledCount() of " + n + " with 0 .. " + v + " fixed", byFixing.settledCount(), v + 1);
+                byCost.cost(v, v % 2, 1);
+                due("settledCount() of " + n + " with 0 .. " + v + " decided by cost", byCost.settledCount(), v + 1);
             }
         }
         due("settledCount() with two best plans", twoBest().settledCount(), 1);
